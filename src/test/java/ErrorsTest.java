@@ -277,6 +277,7 @@ public final class ErrorsTest {
         lawOf(20, 61, 0, 0);
         lawOf(20, 60, 1, 20);
         lawOf(300, 8, 1, 0);
+        lawOf(299, 8, 1, 1);
         lawOf(300, 7, 0, 0);
         lawOf(0, 300, 1, 8);
         lawOf(300, 300, 0, 0);
@@ -326,6 +327,15 @@ public final class ErrorsTest {
         check.due("good till the fourth", cooked.habit(0, 4, 0), 0);
         check.due("off when taken on the fifth", cooked.habit(0, 5, 0), 8);
         check.due("oldest: taken on the first", cooked.habit(0, 5, 1), 0);
+        // By z 4 one is taken on each of the first EVENINGS: off by then, and all is lost.
+        check.holds("z 4 takes three", isTaken(4, 0) && isTaken(4, 1) && isTaken(4, 2));
+        OffFirst all = check.laid(CELL + "f0,0,1,1,0,0;f0,0,2,2,0,0;f0,0,4,3,0,0;f0,0,8,4,0,0;");
+        check.due("three off ones are taken, one is left", all.habit(4, 3, 1), 15);
+        check.due("three off ones are taken, one is left", all.habit(4, 3, 0), 15);
+        // By z 4: 18, 42 and 66 HOURS of 60, 50, 70 and 40: the oldest are taken in time but for one.
+        OffFirst later = check.laid(CELL + "f0,0,1,60,0,0;f0,0,2,50,0,0;f0,0,4,70,0,0;f0,0,8,40,0,0;");
+        check.due("the oldest ahead, the next oldest then", later.habit(4, 3, 1), 1);
+        check.due("front: 40, 70, and 50, which is off", later.habit(4, 3, 0), 3);
         // By z 0 a third one is not taken before the sixth evening.
         OffFirst two = check.laid(CELL + "f3,0,8,1,0,0;f3,0,4,2,0,0;");
         check.due("18 of 50 ahead of 18 of 100", two.habit(0, 5, 1), 4);

@@ -147,7 +147,9 @@ public final class FoodsTest {
         check.due("5050 hours", x.offIn(1, 0), NONE);
         check.due("12000 hours", x.offIn(2, 0), NONE);
         check.due("cooked for long: 16800 by 10", x.offIn(3, 0), 1680);
-        x.hours(50);
+        x.hours(49);
+        check.due("5001 hours", x.offIn(1, 0), NONE);
+        x.hours(1);
         check.due("5000 hours then", x.offIn(1, 0), 5000);
         x.eat(1);
         check.due("NO ahead of NONE", x.offIn(1, 0), NO);

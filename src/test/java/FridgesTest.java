@@ -14,6 +14,7 @@ public final class FridgesTest {
         faultOfTooMany();
         lay();
         layAnew();
+        layForgets();
         lastOneCounts();
         food();
         warmth();
@@ -63,6 +64,13 @@ public final class FridgesTest {
         // 2100, five HOURS at 50, and 3, 6, 9, 12, 15 more: 2395 of 2400.
         check.due("new: a shut cut", cut.cut(5, false), 0);
         check.due("new: 5 more when opened", cut.cut(5, true), 1);
+        OffFirst thawed = new OffFirst();
+        thawed.make(0, 3);
+        thawed.hours(83);
+        thawed.make(0, 0);
+        thawed.hours(22);
+        // 83 and 22 by 100, and twice 10, 40, 3 and 5: 2399 of 2400.
+        check.due("new: not 6 more", thawed.cut(1, true), 0);
     }
 
     private static void write() {
@@ -299,6 +307,27 @@ public final class FridgesTest {
         check.due("lay once more: age", x.food(0, 2), 0);
         check.due("lay once more: there", x.food(0, 4), 0);
         check.due("lay once more: hour", x.count(6), 0);
+    }
+
+    /** What a text does not tell is as without, whatever was laid ahead of it. */
+    private static void layForgets() {
+        OffFirst x = check.laid("c40,5,10;c50,5,10;o3;f0,0,9,48,3,0;f0,0,9,48,3,1;d3;d2;e1;g9,1;g1,1;b1,1;s0;");
+        x.wipe();
+        Check.write(x, "c40,5,10;f0,0,9,48,3,1;f0,0,9,48,3,2;f0,0,9,48,3,2;d1;d2;e0;g3,1;");
+        check.due("lay", x.lay(), 3);
+        check.due("10 for one", x.expect(1), 10 + 2 * 15);
+        check.due("20 for two", x.expect(2), 20 + 15);
+        check.due("slip 1", x.smell(1), 3);
+        check.due("no food of sort 0", x.plan(1, 0), 1);
+        check.due("one eater", x.plan(1, -1), 0);
+        x.wipe();
+        Check.write(x, "c40,5,10;f0,0,9,48,3,0;e0;");
+        check.due("lay", x.lay(), 1);
+        check.due("no dishes", x.plan(1, -1), 10);
+        check.due("no dishes", x.plan(1, 0), OffFirst.NONE);
+        check.due("one food", x.lost(500), 9);
+        check.due("one food", x.cut(48, false), 1);
+        check.due("one food", x.hours(999), 1);
     }
 
     private static void lastOneCounts() {

@@ -96,6 +96,11 @@ public final class PlansTest {
         // 18 of 50 is less than 900 of 2050; by the second evening that one is off, the frozen one is not.
         planDue("the frozen one is younger",
                 check.laid(CELL + "f3,0,50,1,0,0;f0,0,3,41,0,0;" + two), 0, 0, 0, NONE);
+        // Of those that are left the oldest, each on the last evening that it is good: 18, 42, 66.
+        planDue("evening by evening",
+                check.laid(CELL + "f0,0,9,99,0,0;f0,0,9,80,0,0;f0,0,9,66,0,0;f0,0,9,42,0,0;" + two), 0, 0, 0, 0, NONE);
+        planDue("evening by evening",
+                check.laid(CELL + "f0,0,9,42,0,0;f0,0,9,66,0,0;f0,0,9,80,0,0;f0,0,9,99,0,0;" + two), 0, 0, 0, 0, NONE);
         OffFirst x = check.laid(CELL + "f0,0,3,20,0,0;f0,0,50,20,0,0;" + two);
         x.eat(0);
         planDue("not an eaten one", x, 0, 0, NONE);
