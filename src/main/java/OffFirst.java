@@ -937,16 +937,22 @@ public final class OffFirst {
             stock.hour += hours;
         }
 
+        /** Leaps over whole days, each of which ages the FOOD alike; the HOURS of the last one go one by one. */
         int hoursTillOff(int i, int c) {
-            int limit = limitOf(i);
-            int age = stock.ageOf(i);
-            for (int h = 0; h <= MOST_TILL_OFF; h++) {
-                if (age >= limit) {
-                    return h;
-                }
-                age += ageing(stock.kindOf(i), 1, laid.cells.warmIn(c, stock.hour + h));
+            int kind = stock.kindOf(i);
+            int left = limitOf(i) - stock.ageOf(i);
+            if (left <= 0) {
+                return 0;
             }
-            return NONE;
+            int aDay = ageing(kind, HOURS_A_DAY, laid.cells.warmthOver(c, stock.hour, HOURS_A_DAY));
+            int days = aDay > 0 ? (left - 1) / aDay : 0;
+            int hours = days * HOURS_A_DAY;
+            left -= days * aDay;
+            for (int h = 0; h < HOURS_A_DAY && left > 0; h++) {
+                left -= ageing(kind, 1, laid.cells.warmIn(c, stock.hour + h));
+                hours++;
+            }
+            return hours <= MOST_TILL_OFF ? hours : NONE;
         }
 
         int lostBehind(int hours) {
