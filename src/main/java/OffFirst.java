@@ -1142,32 +1142,44 @@ public final class OffFirst {
             number = numberOfEvenings;
             leastCost = DEAREST;
             evenings.lookAhead(number);
-            tryEvening(0, fridge.stock.bitsThere(), 0);
+            tryEvening(this, 0, fridge.stock.bitsThere(), 0);
         }
 
         int dishOn(int evening) {
             return at(best, evening);
         }
 
-        /** Tries what can be eaten from an EVENING on; in order, so that of several the first stays. */
-        private void tryEvening(int evening, int there, int cost) {
-            if (cost >= leastCost) {
+        /**
+         * Tries what can be eaten from an EVENING on; in order, so that of several the first stays. Static, as a method
+         * that calls itself has to be.
+         */
+        private static void tryEvening(Planner plan, int evening, int there, int cost) {
+            if (cost >= plan.leastCost) {
                 return;
             }
-            if (evening >= number) {
-                settle(cost + fridge.laid.foods.coinOfAll(there & evenings.offOn(number - 1)));
+            if (evening >= plan.number || evening >= MOST_PLANNED) {
+                plan.settle(cost + plan.coinLeft(there));
                 return;
             }
-            put(row, evening, NONE);
-            tryEvening(evening + 1, there, cost + 10 * fridge.laid.hungryWith(0));
-            for (int dish = 0; dish < fridge.laid.dishNumber; dish++) {
-                int sorts = fridge.laid.sortsOfDish(dish);
-                int eaten = eatenOn(evening, there, sorts);
+            put(plan.row, evening, NONE);
+            tryEvening(plan, evening + 1, there, cost + plan.costOfHunger(0));
+            for (int dish = 0; dish < plan.fridge.laid.dishNumber; dish++) {
+                int sorts = plan.fridge.laid.sortsOfDish(dish);
+                int eaten = plan.eatenOn(evening, there, sorts);
                 if (eaten != 0) {
-                    put(row, evening, dish);
-                    tryEvening(evening + 1, there & ~eaten, cost + 10 * fridge.laid.hungryWith(sorts));
+                    put(plan.row, evening, dish);
+                    tryEvening(plan, evening + 1, there & ~eaten, cost + plan.costOfHunger(sorts));
                 }
             }
+        }
+
+        private int costOfHunger(int sorts) {
+            return 10 * fridge.laid.hungryWith(sorts);
+        }
+
+        /** The coin of those that are left and OFF as the last EVENING begins. */
+        private int coinLeft(int there) {
+            return fridge.laid.foods.coinOfAll(there & evenings.offOn(number - 1));
         }
 
         /** The FOODS that a DISH takes, as bits; 0 if it can not be. */
@@ -1217,7 +1229,7 @@ public final class OffFirst {
             for (int c = 0; c < fridge.laid.cells.number; c++) {
                 put(free, c, fridge.laid.cells.roomOf(c) - fridge.stock.numberIn(c));
             }
-            tryFood(0, lookAtFoods(hours));
+            tryFood(this, 0, lookAtFoods(hours));
         }
 
         /** Frees the room of the FOODS to be laid and notes what they would cost in each CELL: what is LOST of the others. */
@@ -1246,19 +1258,22 @@ public final class OffFirst {
             return at(best, place);
         }
 
-        /** Tries the CELLS of one FOOD and of those behind it; in order, so that of several the first stays. */
-        private void tryFood(int place, int lost) {
-            if (place >= number) {
-                settle(lost);
+        /**
+         * Tries the CELLS of one FOOD and of those behind it; in order, so that of several the first stays. Static, as a
+         * method that calls itself has to be.
+         */
+        private static void tryFood(Layer layer, int place, int lost) {
+            if (place >= layer.number || place >= MOST_LAID) {
+                layer.settle(lost);
                 return;
             }
-            for (int c = 0; c < fridge.laid.cells.number; c++) {
-                int room = at(free, c);
+            for (int c = 0; c < layer.fridge.laid.cells.number; c++) {
+                int room = at(layer.free, c);
                 if (room > 0) {
-                    put(free, c, room - 1);
-                    put(way, place, c);
-                    tryFood(place + 1, lost + at(lostIn, place * MOST_CELLS + c));
-                    put(free, c, room);
+                    put(layer.free, c, room - 1);
+                    put(layer.way, place, c);
+                    tryFood(layer, place + 1, lost + at(layer.lostIn, place * MOST_CELLS + c));
+                    put(layer.free, c, room);
                 }
             }
         }

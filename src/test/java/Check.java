@@ -3,6 +3,7 @@ import java.nio.charset.StandardCharsets;
 /** Counts the answers that are not as due, and writes texts into an OffFirst. */
 final class Check {
     private final String name;
+    private String sentence = "";
     private int asked;
     private int wrong;
 
@@ -10,11 +11,24 @@ final class Check {
         this.name = name;
     }
 
+    /** Names the document's sentence that is tested from here on. */
+    void sentence(String words) {
+        sentence = " [" + words + "]";
+    }
+
     void due(String call, long got, long want) {
         asked++;
         if (got != want) {
             wrong++;
-            System.out.println(name + ": " + call + " answered " + got + ", due is " + want);
+            System.out.println(name + sentence + ": " + call + " answered " + got + ", due is " + want);
+        }
+    }
+
+    void due(String call, String got, String want) {
+        asked++;
+        if (!got.equals(want)) {
+            wrong++;
+            System.out.println(name + sentence + ": " + call + " answered " + got + ", due is " + want);
         }
     }
 
@@ -22,7 +36,7 @@ final class Check {
         asked++;
         if (!isSo) {
             wrong++;
-            System.out.println(name + ": it is not so that " + what);
+            System.out.println(name + sentence + ": it is not so that " + what);
         }
     }
 
@@ -45,6 +59,20 @@ final class Check {
         due("fault() of " + text, x.fault(), OffFirst.NONE);
         holds("lay() of " + text + " lays", x.lay() > 0);
         return x;
+    }
+
+    /** A new object with a text that is not LAID. */
+    static OffFirst written(String text) {
+        OffFirst x = new OffFirst();
+        write(x, text);
+        return x;
+    }
+
+    /** Lets more HOURS go by than one call can. */
+    static void goBy(OffFirst x, int hours) {
+        for (int left = hours; left > 0; left -= 999) {
+            x.hours(Math.min(left, 999));
+        }
     }
 
     /** Writes a text, up to eight bytes at a time: how long THE TEXT is. */

@@ -22,8 +22,11 @@ public final class LanguageTest {
         "cut int boolean", "ill int int", "span int int", "noSpans", "law int", "habit int int int", "keep", "back",
         "count int"};
     private static final List<String> BARRED = List.of("throw", "throws", "try", "catch", "finally", "synchronized",
-            "assert", "import", "package", "native", "volatile", "transient", "protected", "instanceof", "null");
-    private static final List<String> LIBRARY = List.of("Math.min", "Math.max", "Integer.bitCount");
+            "assert", "package", "native");
+    private static final List<String> IMPORTS = List.of("java.util.ArrayList", "java.util.List", "java.util.Arrays",
+            "java.util.Iterator");
+    private static final List<Class<?>> CONSTANTS = List.of(int.class, long.class, boolean.class, char.class,
+            String.class, int[].class, long[].class, char[].class, byte[].class);
 
     public static void main(String[] args) throws IOException {
         face();
@@ -76,15 +79,15 @@ public final class LanguageTest {
             face.add(head.split(" ")[0]);
         }
         Class<?>[] inside = OffFirst.class.getDeclaredClasses();
-        check.holds("some twelve classes at most", inside.length + 1 <= 12);
+        check.holds("some twelve classes at most", inside.length <= 12);
         fewFields(OffFirst.class);
         for (Class<?> one : inside) {
-            check.holds(one + " is private and static", Modifier.isStatic(one.getModifiers())
-                    && Modifier.isPrivate(one.getModifiers()));
-            check.holds(one + " has no classes inside", one.getDeclaredClasses().length == 0);
+            check.holds(one + " is static, private or package-visible", Modifier.isStatic(one.getModifiers())
+                    && !Modifier.isPublic(one.getModifiers()) && !Modifier.isProtected(one.getModifiers()));
             fewFields(one);
             for (Method method : one.getDeclaredMethods()) {
-                check.holds(method + " has a name of its own", !face.contains(method.getName()));
+                check.holds(method + " has a name of its own", !Modifier.isPrivate(method.getModifiers())
+                        || !face.contains(method.getName()));
                 check.holds(method + " has at most seven parameters", method.getParameterCount() <= 7);
             }
         }
@@ -93,11 +96,11 @@ public final class LanguageTest {
     private static void fewFields(Class<?> one) {
         int fields = 0;
         for (Field field : one.getDeclaredFields()) {
-            if (Modifier.isStatic(field.getModifiers())) {
-                check.holds(field + " is a final number", Modifier.isFinal(field.getModifiers())
-                        && field.getType() == int.class);
-            } else {
+            if (!Modifier.isStatic(field.getModifiers())) {
                 fields++;
+            } else if (!field.isSynthetic() && !field.isEnumConstant()) {
+                check.holds(field + " is a constant", Modifier.isFinal(field.getModifiers())
+                        && CONSTANTS.contains(field.getType()));
             }
         }
         check.holds(one + " has some twenty fields at most", fields <= 20);
@@ -107,24 +110,43 @@ public final class LanguageTest {
         check.holds("the source is ASCII", source.chars().allMatch(sign -> sign == '\n' || sign >= 32 && sign < 127));
         String code = source.replaceAll("(?s)/\\*.*?\\*/", " ").replaceAll("//[^\n]*", " ");
         for (String word : BARRED) {
-            check.holds("there is no " + word, !Pattern.compile("\\b" + word + "\\b").matcher(code).find());
+            check.holds("there is no " + word, !hasWord(code, word));
         }
-        check.holds("there is no lambda, no method reference", !code.contains("->") && !code.contains("::"));
-        check.holds("there is no text", !code.contains("\""));
-        Matcher used = Pattern.compile("\\b(?:Math|Integer|Long|System|Arrays|String|StringBuilder)\\b(?:\\.\\w+)?")
-                .matcher(code);
-        while (used.find()) {
-            check.holds(used.group() + " is of the library", LIBRARY.contains(used.group()));
-        }
-        // Every row is read and set by at and put, which look at the index first.
-        Matcher index = Pattern.compile("\\w+\\s*\\[[^\\]]+\\]").matcher(code.replaceAll("new int\\[", "("));
-        int indexed = 0;
-        while (index.find()) {
-            check.holds(index.group() + " stands in at or put", index.group().equals("row[i]"));
-            indexed++;
-        }
-        check.due("rows indexed", indexed, 2);
+        check.holds("there is no static block", !hasWord(code, "static\\s*\\{"));
+        check.holds("there is no method reference", !code.contains("::"));
+        check.holds("there is no lambda",
+                !code.replaceAll("\\b(case\\b[^;:{}>]*|default\\s*)->", "").contains("->"));
+        librarySource(code);
         methodsAreShort(source);
+    }
+
+    private static boolean hasWord(String code, String word) {
+        return Pattern.compile("\\b" + word + "(?!\\w)").matcher(code).find();
+    }
+
+    private static void librarySource(String code) {
+        Matcher imported = Pattern.compile("\\bimport\\s+([\\w.*\\s]+);").matcher(code);
+        while (imported.find()) {
+            check.holds(imported.group(1) + " may be imported", IMPORTS.contains(imported.group(1)));
+        }
+        check.holds("nothing ends in Exact", !hasWord(code, "\\w+Exact"));
+        Matcher used = Pattern.compile("\\b(Math|Integer|Long|System|Arrays)\\.(\\w+)").matcher(code);
+        while (used.find()) {
+            check.holds(used.group() + " is of the library", isOfLibrary(used.group(1), used.group(2)));
+        }
+    }
+
+    private static boolean isOfLibrary(String type, String name) {
+        switch (type) {
+            case "System":
+                return name.equals("arraycopy");
+            case "Arrays":
+                return List.of("copyOf", "copyOfRange", "fill").contains(name);
+            case "Math":
+                return List.of("min", "max", "abs", "floorDiv", "floorMod").contains(name);
+            default:
+                return !name.startsWith("parse") && !name.startsWith("get") && !name.equals("decode");
+        }
     }
 
     private static void methodsAreShort(String source) {

@@ -2,7 +2,8 @@ import java.util.Random;
 
 /** Runs of drawn calls, each answer held against SlowFridge. The seeds are fixed: each run is the same each time. */
 public final class RandomRunsTest {
-    private static final int RUNS = 400, CALLS = 300;
+    /** An object is good for 512 calls; what is drawn beyond them is not asked. */
+    private static final int RUNS = 500, DRAWS = 320, CALLS = 512;
     private static final String[] FACE = {"write", "wipe", "fault", "lay", "food", "warmth", "hours", "move", "make",
         "eat", "throwOut", "offIn", "lost", "plan", "freeze", "lie", "expect", "buy", "print", "smell", "line", "cut",
         "ill", "span", "noSpans", "law", "habit", "keep", "back", "count"};
@@ -15,6 +16,7 @@ public final class RandomRunsTest {
     private final OffFirst x = new OffFirst();
     private final SlowFridge slow = new SlowFridge();
     private final StringBuilder log = new StringBuilder();
+    private int calls;
     private int foods = 1;
     private int cells = 1;
 
@@ -27,7 +29,7 @@ public final class RandomRunsTest {
         Check check = new Check("RandomRunsTest");
         for (int seed = 0; seed < RUNS && !check.isWrong(); seed++) {
             RandomRunsTest run = new RandomRunsTest(check, seed);
-            run.go(CALLS);
+            run.go(DRAWS);
             if (check.isWrong()) {
                 System.out.println("seed " + seed + ": " + run.log);
             }
@@ -35,8 +37,8 @@ public final class RandomRunsTest {
         check.end();
     }
 
-    private void go(int calls) {
-        for (int call = 0; call < calls && !check.isWrong(); call++) {
+    private void go(int many) {
+        for (int call = 0; call < many && !check.isWrong(); call++) {
             if (draws.nextInt(60) == 0 || call == 0 && draws.nextInt(4) > 0) {
                 tellText();
             }
@@ -279,11 +281,19 @@ public final class RandomRunsTest {
     }
 
     private void write(int n, long v) {
+        if (calls >= CALLS) {
+            return;
+        }
+        calls++;
         log.append(" write(").append(n).append(", ").append(v).append("L)");
         check.due("write(" + n + ", " + v + "L)", x.write(n, v), slow.write(n, v));
     }
 
     private void ask(String name, int a, int b, int c) {
+        if (calls >= CALLS) {
+            return;
+        }
+        calls++;
         String call = name + "(" + a + ", " + b + ", " + c + ")";
         log.append(' ').append(call);
         switch (name) {
