@@ -224,13 +224,13 @@ public final class ErrorEdgesTest {
 
     private static void cutWarmsByThreeMoreEachHour() {
         check.sentence("in the k-th of them (1 first) a CELL is W and 3 k warm");
-        for (int n = 1; n <= 48; n++) {
+        for (int warm = 38; warm <= 87; warm++) {
             int age = 0;
-            for (int k = 1; k <= n; k++) {
-                age += 10 + 40 + 3 * k;
+            for (int n = 1; n <= 48; n++) {
+                age += 10 + warm + 3 * n;
+                OffFirst x = check.laid("c" + warm + ",7,9;f0,0,1," + age / 50 + ",0,0;f0,0,1," + (age / 50 + 1) + ",0,0;");
+                check.due("cut " + n + " of " + warm, x.cut(n, false), 1);
             }
-            OffFirst x = laid("f0,0,1," + age / 50 + ",0,0;f0,0,1," + (age / 50 + 1) + ",0,0;");
-            check.due("cut " + n, x.cut(n, false), 1);
         }
         // 24 by 50 and 3 by 300 are 2100, the LIMIT of LIFE 42.
         check.due("at its LIMIT", laid("f0,0,1,42,0,0;").cut(24, false), 1);
@@ -440,6 +440,12 @@ public final class ErrorEdgesTest {
         fresh.hours(1);
         illDue(fresh, 0, 0, 1);
         illDue(fresh, 1, 1, 1);
+        OffFirst one = laid("f3,0,1,1,0,0;");
+        one.hours(5);
+        one.eat(0);
+        one.hours(25);
+        // 50 by 50 is 1, not doubled any more.
+        illDue(one, 0, 1, 1);
         OffFirst thrown = laid("f0,0,1,1,0,0;");
         thrown.hours(9);
         thrown.throwOut(0);

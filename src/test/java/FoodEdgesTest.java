@@ -323,6 +323,12 @@ public final class FoodEdgesTest {
 
     private static void offInCountsFromNowOn() {
         check.sentence("OFF IN: from now on");
+        for (int age = 0; age <= 102; age++) {
+            OffFirst x = check.laid("c0,0,10;f3,0,1,1,0,0;f3,0,1,2,0,0;");
+            Check.goBy(x, age);
+            check.due("frozen, AGE " + age + " of 50", x.offIn(0, 0), Math.max(50 - age, 0));
+            check.due("frozen, AGE " + age + " of 100", x.offIn(1, 0), Math.max(100 - age, 0));
+        }
         // 150 an HOUR in HOUR 0 of each day, 51 else.
         for (int from = 0; from <= 48; from++) {
             OffFirst x = check.laid("c41,99,10;o0;f3,0,1,240,0,0;f2,0,1,1,0,0;");

@@ -30,6 +30,7 @@ public final class HourEdgesTest {
         countTakesToldWhats();
         countOfLeastAndMost();
         countOfWhatChanges();
+        fiveHundredAndTwelveCalls();
         check.end();
     }
 
@@ -58,6 +59,13 @@ public final class HourEdgesTest {
         Check.goBy(x, 42);
         check.due("a CUT with the door shut", x.cut(5, false), 0);
         check.due("a CUT with the door opened", x.cut(5, true), 1);
+        // FROZEN 83 HOURS and OPENED 22 are 2283; then twice 10, 40, 3 and 5: 2399 of 2400.
+        OffFirst thawed = new OffFirst();
+        thawed.make(0, FROZEN);
+        thawed.hours(83);
+        thawed.make(0, 0);
+        thawed.hours(22);
+        check.due("R is not 6", thawed.cut(1, true), 0);
         OffFirst coin = new OffFirst();
         check.due("V", coin.lost(48), 9);
         check.due("slip", coin.smell(1), 1);
@@ -423,5 +431,32 @@ public final class HourEdgesTest {
         check.due("bytes", x.count(8), 400);
         check.due("noSpans", x.noSpans(), 8);
         check.due("SPANS", x.count(5), 0);
+    }
+
+    private static void fiveHundredAndTwelveCalls() {
+        check.sentence("an object is used for at most 512 calls");
+        OffFirst x = new OffFirst();
+        for (int call = 1; call <= 511; call++) {
+            int off = x.hours(call % 2 == 0 ? 1 : 2);
+            if (off != (call >= 32 ? 1 : 0)) {
+                check.due("hours, call " + call, off, call >= 32 ? 1 : 0);
+            }
+        }
+        check.due("the HOUR", x.count(6), 256 * 2 + 255);
+        OffFirst kept = new OffFirst();
+        for (int call = 1; call <= 170; call++) {
+            kept.keep();
+            kept.hours(1);
+            kept.back();
+        }
+        check.due("keep", kept.keep(), 1);
+        check.due("the HOUR", kept.count(6), 0);
+        OffFirst text = new OffFirst();
+        for (int call = 1; call <= 255; call++) {
+            text.write(8, 0);
+            text.wipe();
+        }
+        check.due("write", text.write(1, 'o'), 1);
+        check.due("fault", text.fault(), 0);
     }
 }

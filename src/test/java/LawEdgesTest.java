@@ -29,6 +29,7 @@ public final class LawEdgesTest {
         habitOfTheFront();
         habitOfTheOldest();
         habitOfTheOldestTheLowest();
+        habitOfTenForTwentyDays();
         habitTakesOneThatIsThere();
         habitTakesOffOnesToo();
         habitCostsThoseThatWereOffWhenTaken();
@@ -318,6 +319,38 @@ public final class LawEdgesTest {
         check.due("alike", laid("f0,0,1,20,0,0;f0,0,2,20,0,0;f0,0,4,20,0,0;").habit(TAKES, 2, OLDEST), 6);
         check.due("alike by their LIMITS", laid("f1,0,1,40,0,0;f0,0,2,20,0,0;").habit(TAKES, 2, OLDEST), 2);
         check.due("alike by their LIMITS", laid("f0,0,1,20,0,0;f1,0,2,40,0,0;").habit(TAKES, 2, OLDEST), 2);
+    }
+
+    private static void habitOfTenForTwentyDays() {
+        check.sentence("HABIT for 20 DAYS: of ten FOODS the oldest, or the last one");
+        // OFF on the twentieth EVENING (4740), not on the one ahead of it (4500); from the oldest on: 9, 8, .. 0.
+        String text = "c0,0,10;f0,0,1,94,0,0;f0,0,2,94,0,0;f0,0,3,93,0,0;f0,0,4,93,0,0;f0,0,5,93,0,0;f0,0,6,92,0,0;"
+                + "f0,0,7,92,0,0;f0,0,8,92,0,0;f0,0,9,91,0,0;f0,0,10,91,0,0;";
+        int[] byAge = {9, 10, 6, 7, 8, 3, 4, 5, 1, 2};
+        int[] byPlace = {10, 9, 8, 7, 6, 5, 4, 3, 2, 1};
+        OffFirst x = check.laid(text);
+        for (int z = 0; z <= 9999; z++) {
+            if (z % 200 == 199) {
+                x = check.laid(text);
+            }
+            int taken = 10 - leftBy(z, 20, 10);
+            if (taken < 10) {
+                check.due("habit " + z + ", 20, 0", x.habit(z, 20, FRONT), sumFrom(byPlace, taken));
+                check.due("habit " + z + ", 20, 1", x.habit(z, 20, OLDEST), sumFrom(byAge, taken));
+            }
+        }
+        OffFirst two = laid("f0,0,1,20,0,0;".repeat(9) + "f0,0,50,21,0,0;");
+        check.due("the youngest of ten", two.habit(TAKES, 2, OLDEST), 58);
+        OffFirst other = laid("f0,0,1,21,0,0;".repeat(9) + "f0,0,50,20,0,0;");
+        check.due("the oldest of ten", other.habit(TAKES, 2, OLDEST), 9);
+    }
+
+    private static int sumFrom(int[] coins, int from) {
+        int sum = 0;
+        for (int i = from; i < coins.length; i++) {
+            sum += coins[i];
+        }
+        return sum;
     }
 
     private static void habitTakesOneThatIsThere() {

@@ -170,6 +170,8 @@ public final class PlanEdgesTest {
         planDue(laid("f1,0,3,40,0,0;f0,0,50,20,0,0;d1;"), 50, 0, NONE);
         planDue(laid("f0,0,50,20,0,0;f1,0,3,40,0,0;d1;"), 3, 0, NONE);
         planDue(laid("f0,0,1,20,0,0;f0,0,2,20,0,0;f0,0,4,20,0,0;d1;"), 6, 0, NONE);
+        planDue(laid("f0,0,1,20,0,0;".repeat(9) + "f0,0,50,21,0,0;d1;"), 58, 0, NONE);
+        planDue(laid("f0,0,1,21,0,0;".repeat(9) + "f0,0,50,20,0,0;d1;"), 9, 0, NONE);
     }
 
     private static void aDishNeedsEachOfItsSorts() {
@@ -306,6 +308,10 @@ public final class PlanEdgesTest {
         freezeDue(x, 50, 1, 50);
         x.make(1, 3);
         freezeDue(x, 50, NONE, NONE);
+        freezeDue(laid("f3,0,50,1,0,0;f1,0,9,20,0,0;"), 10, 1, 0);
+        freezeDue(laid("f3,0,50,1,0,0;f2,0,9,4,0,0;"), 100, 1, 50);
+        x.make(0, 0);
+        freezeDue(x, 1, 0, 0);
     }
 
     private static void freezeOfSeveralTheLowest() {

@@ -50,6 +50,7 @@ public final class TextEdgesTest {
         layNeedsRoom();
         layTellsHowManyFoods();
         layBeginsAnew();
+        layForgetsWhatWasTold();
         layLeavesTheText();
         layThatIsRefusedLeavesWhatIsLaid();
         check.end();
@@ -602,6 +603,41 @@ public final class TextEdgesTest {
         check.due("law", x.law(0), 0);
         check.due("KEPT", x.count(9), 0);
         check.due("back", x.back(), NO);
+    }
+
+    private static void layForgetsWhatWasTold() {
+        check.sentence("LAID is a TEXT: what it does not tell is as without, whatever was LAID ahead of it");
+        OffFirst x = check.laid("c40,5,10;c50,6,10;o3;o4;f0,0,9,48,3,0;f1,1,8,30,9,3;f2,1,7,30,9,1;d1;d2;d3;e1;e3;g9,1;g1,1;"
+                + "b1,1;s4;");
+        x.hours(20);
+        x.eat(2);
+        x.wipe();
+        Check.write(x, "c40,5,10;f0,0,9,240,3,2;f0,0,9,240,3,1;d1;d8;d2;e0;g3,1;o4;");
+        check.due("lay", x.lay(), 2);
+        int[] counts = {2, 1, 3, 1, 1, 0, 0, 2, 59, 0};
+        for (int what = 0; what <= 9; what++) {
+            check.due("count " + what, x.count(what), counts[what]);
+        }
+        check.due("the door stays shut", x.warmth(0, 3), 40);
+        check.due("and is opened", x.warmth(0, 4), 45);
+        check.due("no CELL 1", x.warmth(1, 4), BAD);
+        check.due("no FOOD 2", x.food(2, 0), BAD);
+        check.due("10 for one", x.expect(1), 10 + 2 * 15);
+        check.due("20 for two", x.expect(2), 20 + 15);
+        check.due("slip 1", x.smell(1), 2);
+        check.due("one EATER", x.plan(1, -1), 0);
+        check.due("no FOOD of SORT 0, none of SORT 3", x.plan(1, 0), 2);
+        x.hours(30);
+        check.due("no FOOD was EATEN", x.ill(0, 0), NONE);
+        x.wipe();
+        Check.write(x, CELL + FOOD);
+        check.due("lay", x.lay(), 1);
+        check.due("no DISHES, no EATERS", x.plan(1, -1), 0);
+        check.due("no GUESTS", x.buy(), NONE);
+        check.due("no opened HOUR", x.warmth(0, 4), 40);
+        check.due("one FOOD", x.lost(500), 9);
+        check.due("one FOOD", x.cut(48, false), 1);
+        check.due("one FOOD", x.hours(999), 1);
     }
 
     private static void layLeavesTheText() {
