@@ -173,7 +173,7 @@ public final class OffFirst {
         if (i < 0) {
             return NONE;
         }
-        return what == 0 ? i : fridge.lostIfFrozen(i, n);
+        return what == 0 ? i : fridge.lostIfFrozen(i, n, fridge.lostBehind(n));
     }
 
     public int lie(int k, int n, int i) {
@@ -965,19 +965,21 @@ public final class OffFirst {
             return sum;
         }
 
-        int lostIfFrozen(int i, int hours) {
+        /** What is LOST with one FOOD frozen now, told what is LOST else. */
+        int lostIfFrozen(int i, int hours, int lostElse) {
             int cell = stock.cellOf(i);
             int asItIs = coinLostAs(i, stock.kindOf(i), cell, hours);
-            return lostBehind(hours) - asItIs + coinLostAs(i, FROZEN, cell, hours);
+            return lostElse - asItIs + coinLostAs(i, FROZEN, cell, hours);
         }
 
         /** The FOOD to freeze, NONE if none makes it less. */
         int bestToFreeze(int hours) {
             int best = NONE;
-            int least = lostBehind(hours);
+            int lostElse = lostBehind(hours);
+            int least = lostElse;
             for (int i = 0; i < laid.foods.number; i++) {
                 if (stock.isThere(i) && stock.kindOf(i) != FROZEN) {
-                    int lost = lostIfFrozen(i, hours);
+                    int lost = lostIfFrozen(i, hours, lostElse);
                     if (lost < least) {
                         best = i;
                         least = lost;

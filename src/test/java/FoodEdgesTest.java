@@ -421,6 +421,14 @@ public final class FoodEdgesTest {
         x.hours(3);
         check.due("lost 0", x.lost(0), 7);
         check.due("lost 1", x.lost(1), 15);
+        // 50 an HOUR and 50 more in HOUR 5 of each day: 350 behind six.
+        for (int hour = 0; hour <= 6; hour++) {
+            OffFirst door = check.laid("c40,50,9;o5;f0,0,9,7,0,0;");
+            Check.goBy(door, hour);
+            for (int n = 0; n <= 9; n++) {
+                check.due("lost " + n + " from HOUR " + hour, door.lost(n), hour + n >= 6 ? 9 : 0);
+            }
+        }
     }
 
     private static void lostIsOfThoseThatAreThere() {

@@ -377,6 +377,8 @@ public final class LawEdgesTest {
         check.sentence("COST: the coin of those that were OFF when taken");
         for (int rule = FRONT; rule <= OLDEST; rule++) {
             check.due("OFF as the EVENING begins", laid("f0,0,5,18,0,0;").habit(TAKES, 1, rule), 5);
+            check.due("the door ahead of it", check.laid("c40,50,9;o17;f0,0,5,19,0,0;").habit(TAKES, 1, rule), 5);
+            check.due("the door in its HOUR", check.laid("c40,50,9;o18;f0,0,5,19,0,0;").habit(TAKES, 1, rule), 0);
             check.due("not OFF yet", laid("f0,0,5,19,0,0;").habit(TAKES, 1, rule), 0);
             check.due("not OFF when taken", laid("f0,0,5,19,0,0;").habit(TAKES, 2, rule), 0);
             check.due("OFF when taken, and once", laid("f0,0,5,18,0,0;").habit(TAKES, 3, rule), 5);

@@ -113,6 +113,10 @@ public final class PlanEdgesTest {
         OffFirst now = laid("f0,0,7,19,0,0;d1;e0;");
         now.hours(18);
         planDue(now, 0, 0);
+        // The HOUR ahead of it counts, its own does not: 900 and 50 of 950.
+        planDue(check.laid("c40,50,9;o17;f0,0,7,19,0,0;d1;e0;"), 17, NONE);
+        planDue(check.laid("c40,50,9;o18;f0,0,7,19,0,0;d1;e0;"), 0, 0);
+        planDue(check.laid("c40,50,9;o18;f0,0,7,43,0,0;"), 7, NONE, NONE);
         OffFirst over = laid("f0,0,7,43,0,0;d1;e0;");
         over.hours(19);
         planDue(over, 0, 0);
@@ -269,6 +273,12 @@ public final class PlanEdgesTest {
 
     private static void freezeForNoughtToFiveHundredHours() {
         check.sentence("FREEZE for n HOURS (0 to 500)");
+        // 100 in the first HOUR, 50 in the second: of 150.
+        OffFirst door = check.laid("c40,50,9;o0;f0,0,9,3,0,0;");
+        freezeDue(door, 1, NONE, NONE);
+        freezeDue(door, 2, 0, 0);
+        door.hours(1);
+        freezeDue(door, 1, 0, 0);
         OffFirst x = laid("f0,0,9,1,0,0;f0,0,5,11,0,0;");
         freezeDue(x, 0, NONE, NONE);
         freezeDue(x, 1, 0, 0);
@@ -383,6 +393,11 @@ public final class PlanEdgesTest {
 
     private static void lieForNoughtToFiveHundredHours() {
         check.sentence("LIE for n HOURS (0 to 500)");
+        // Of 200: 100 an HOUR in CELL 0; 50, 50 and 101 in CELL 1.
+        OffFirst door = check.laid("c90,0,10;c40,51,1;o2;f0,0,9,4,0,0;");
+        lieDue(door, 1, 0, 0);
+        lieDue(door, 2, 0, 1);
+        lieDue(door, 3, 9, 0);
         OffFirst x = check.laid("c90,0,10;c0,0,1;f0,0,1,100,0,0;f0,0,2,101,0,0;f0,0,4,101,0,0;");
         lieDue(x, 0, 0, 0, 0);
         lieDue(x, 49, 0, 0, 0);
@@ -568,6 +583,10 @@ public final class PlanEdgesTest {
             buyDue("g" + guests + ",1;b1,2;", guests);
             buyDue("g" + guests + ",99;b99,198;", 0);
         }
+        // Ten would cost 5 and leave none without: but there are nine at most, which cost 103.
+        buyDue("g9,1;b99,1;", 8);
+        buyDue("g9,1;b15,1;", 8);
+        buyDue("g9,1;b14,1;", 9);
     }
 
     private static void buyIsNoneWithoutGuests() {
