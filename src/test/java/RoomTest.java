@@ -6,8 +6,8 @@ import java.util.Random;
 public final class RoomTest {
     /** The most calls of an object, the writing and laying of its text among them. */
     private static final int CALLS = 450;
-    /** 600,000 objects of 16 bytes and 7,300,000 elements of 4 are the room of all runs; there may well be ten of them. */
-    private static final long ROOM = 600_000 / 10 * 16 + 7_300_000 / 10 * 4;
+    /** All calls of one run live in one room: 600,000 objects of 16 bytes and 7,300,000 elements of 4. */
+    private static final long ROOM = 600_000L * 16 + 7_300_000L * 4;
     private static final int[] EDGES = {Integer.MIN_VALUE, Integer.MIN_VALUE + 1, -99999, -24, -5, -4, -3, -2, -1, 11,
         15, 16, 20, 21, 24, 31, 32, 33, 48, 49, 64, 72, 73, 240, 300, 301, 500, 501, 999, 1000, 5000, 9999, 10000,
         65521, 99999, 100000, 1 << 24, 1 << 30, Integer.MAX_VALUE - 1, Integer.MAX_VALUE};
