@@ -51,6 +51,7 @@ public final class TextEdgesTest {
         layTellsHowManyFoods();
         layBeginsAnew();
         layForgetsWhatWasTold();
+        layForgetsWhatWasFull();
         layLeavesTheText();
         layThatIsRefusedLeavesWhatIsLaid();
         check.end();
@@ -638,6 +639,22 @@ public final class TextEdgesTest {
         check.due("one FOOD", x.lost(500), 9);
         check.due("one FOOD", x.cut(48, false), 1);
         check.due("one FOOD", x.hours(999), 1);
+        Check.write(x, "e0;");
+        check.due("lay", x.lay(), 1);
+        check.due("no DISHES", x.plan(1, -1), 10);
+        check.due("no DISHES", x.plan(1, 0), NONE);
+    }
+
+    private static void layForgetsWhatWasFull() {
+        check.sentence("LAID: no more FOODS in a CELL than it has room for, of those that are told now");
+        OffFirst x = check.laid("c90,0,10;c90,0,10;c0,0,10;" + FOOD + FOOD + "f0,1,9,48,3,0;");
+        check.due("the cold CELL", x.lie(1, 30, 0), 2);
+        x.wipe();
+        Check.write(x, "c90,0,2;c90,0,1;" + FOOD + FOOD);
+        check.due("room for two", x.lay(), 2);
+        check.due("no cold CELL", x.lie(1, 30, 0), 0);
+        check.due("no cold CELL", x.lie(1, 30, -1), 18);
+        check.due("room for one", x.move(1, 1), 1);
     }
 
     private static void layLeavesTheText() {
